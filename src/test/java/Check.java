@@ -1,0 +1,89 @@
+import java.nio.charset.StandardCharsets;
+import java.util.NoSuchElementException;
+
+/** What the tests share: answers against those due, and texts fed as numbers. */
+final class Check {
+    private static int checks = 0;
+    private static int wrong = 0;
+
+    private Check() {
+    }
+
+    static void due(String what, long got, long want) {
+        checks++;
+        if (got != want) {
+            wrong++;
+            System.out.println(what + " answered " + got + ", due is " + want);
+        }
+    }
+
+    static void due(String what, boolean got, boolean want) {
+        due(what, got ? 1 : 0, want ? 1 : 0);
+    }
+
+    /** A call's answer and the trouble behind it. */
+    static void refused(PostScripts x, String what, long got, long want, int trouble) {
+        due(what, got, want);
+        due(what + " trouble", x.trouble(), trouble);
+    }
+
+    static void end(String test) {
+        System.out.println(test + ": " + checks + " checks, " + wrong + " wrong");
+        if (wrong != 0 || checks == 0) {
+            System.exit(1);
+        }
+    }
+
+    static void feed(PostScripts x, String text) {
+        byte[] bytes = text.getBytes(StandardCharsets.ISO_8859_1);
+        for (int at = 0; at < bytes.length; at += 20) {
+            x.feed(four(bytes, at), four(bytes, at + 4), four(bytes, at + 8), four(bytes, at + 12), four(bytes, at + 16));
+        }
+    }
+
+    private static int four(byte[] bytes, int at) {
+        int number = 0;
+        for (int i = at; i < at + 4; i++) {
+            number = number << 8 | (i < bytes.length ? bytes[i] & 255 : ' ');
+        }
+        return number;
+    }
+
+    static int tell(PostScripts x, String text) {
+        feed(x, text);
+        return x.letter(text.length());
+    }
+
+    static PostScripts told(String text) {
+        PostScripts x = new PostScripts();
+        int places = tell(x, text);
+        if (places < 1) {
+            wrong++;
+            System.out.println("fault " + x.fault() + " at " + x.where() + " of " + text);
+        }
+        return x;
+    }
+
+    /** A text must have this fault at this place. */
+    static void faulty(String text, int fault, int at) {
+        PostScripts x = new PostScripts();
+        due("letter of <" + text + ">", tell(x, text), -1);
+        due("trouble of <" + text + ">", x.trouble(), 4);
+        due("fault of <" + text + ">", x.fault(), fault);
+        due("where of <" + text + ">", x.where(), at);
+    }
+
+    /** The fault must be at the first byte of the text's last token. */
+    static void faultyAtLast(String text, int fault) {
+        int at = Math.max(text.lastIndexOf(' '), text.lastIndexOf(';')) + 1;
+        faulty(text, fault, at);
+    }
+
+    static int led(PostScripts x, int i) {
+        try {
+            return x.led(i);
+        } catch (NoSuchElementException e) {
+            return -99;
+        }
+    }
+}
