@@ -1,3 +1,4 @@
+import java.util.Arrays;
 import java.util.NoSuchElementException;
 
 /**
@@ -31,7 +32,9 @@ public final class PostScripts {
     private static final int MOST_THUMBS = 60;
     private static final int SEEDS = 65537;
     private static final int MOST_INCHES = 9;
-    private static final int FILLINGS = 729;
+    // A hidden line says do or not of a matter, or is blank.
+    private static final int SAYINGS = 2 * MATTERS + 1;
+    private static final int FILLINGS = SAYINGS * SAYINGS * SAYINGS;
 
     private static final int NO_TROUBLE = 0;
     private static final int NO_SUCH = 1;
@@ -489,7 +492,8 @@ public final class PostScripts {
             return refuse(NO_SUCH);
         }
         fillings.find(current, order);
-        return grant(fillings.countSaying(k, 2 * m) + fillings.countSaying(k, 2 * m + 1));
+        int not = k * SAYINGS + 2 * m;
+        return grant(fillings.often[not] + fillings.often[not + 1]);
     }
 
     public int ask() {
@@ -1331,6 +1335,8 @@ public final class PostScripts {
      */
     private static final class Fillings {
         final int[] fit = new int[FILLINGS];
+        // For each line in turn, by how many fillings that fit it says each thing.
+        final int[] often = new int[HIDDEN * SAYINGS];
         final int[] toldPlaces = new int[MATTERS];
         final int[] toldDos = new int[MATTERS];
         final int[] places = new int[MATTERS];
@@ -1349,6 +1355,7 @@ public final class PostScripts {
             count = 0;
             lines = letter.hidden;
             sayings = 2 * letter.matters + 1;
+            Arrays.fill(often, 0);
             int read = letter.page.read();
             for (int m = 0; m < letter.matters; m++) {
                 toldPlaces[m] = letter.page.placesOf(m, read);
@@ -1358,13 +1365,12 @@ public final class PostScripts {
             for (int f = 0; f < all && f < FILLINGS; f++) {
                 fill(letter, f);
                 if (isAsTold(letter, order)) {
-                    fit[count] = f;
-                    count++;
+                    keep(f);
                 }
             }
         }
 
-        // By how much a number grows if line k says the next thing.
+        // By how much a number grows if line k says the next thing; of NONE how many numbers there are.
         private int stepOf(int k) {
             int step = 1;
             for (int i = k + 1; i < lines; i++) {
@@ -1404,24 +1410,22 @@ public final class PostScripts {
             return true;
         }
 
-        int saying(int i, int k) {
-            return i >= 0 && i < count ? digit(fit[i], k) : 0;
+        private void keep(int f) {
+            fit[count] = f;
+            count++;
+            for (int k = 0; k < lines; k++) {
+                often[k * SAYINGS + digit(f, k)]++;
+            }
         }
 
-        int countSaying(int k, int saying) {
-            int many = 0;
-            for (int i = 0; i < count; i++) {
-                if (saying(i, k) == saying) {
-                    many++;
-                }
-            }
-            return many;
+        int saying(int i, int k) {
+            return i >= 0 && i < count ? digit(fit[i], k) : 0;
         }
 
         int mostLeft(int k) {
             int most = 0;
             for (int saying = 0; saying < sayings; saying++) {
-                most = Math.max(most, countSaying(k, saying));
+                most = Math.max(most, often[k * SAYINGS + saying]);
             }
             return most;
         }
