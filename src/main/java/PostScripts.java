@@ -1634,8 +1634,12 @@ public final class PostScripts {
         }
 
         private boolean blame(int why) {
+            return blameAt(why, tape.from);
+        }
+
+        private boolean blameAt(int why, int at) {
             fault = why;
-            faultAt = tape.from;
+            faultAt = at;
             return false;
         }
 
@@ -1729,14 +1733,14 @@ public final class PostScripts {
             if (p == NONE) {
                 return false;
             }
-            int q = nameAtHand(PLACE);
+            int at = tape.from;
+            int q = passName(PLACE);
             if (q == NONE) {
                 return false;
             }
             if (p == q || draft.hasOver(p, q)) {
-                return blame(AGAIN);
+                return blameAt(AGAIN, at);
             }
-            tape.next();
             draft.upper[i] = p;
             draft.lower[i] = q;
             draft.overs++;
@@ -1814,14 +1818,14 @@ public final class PostScripts {
 
         private boolean readDone() {
             tape.next();
-            int m = nameAtHand(MATTER);
+            int at = tape.from;
+            int m = passName(MATTER);
             if (m == NONE) {
                 return false;
             }
             if (draft.told[m] != NONE) {
-                return blame(AGAIN);
+                return blameAt(AGAIN, at);
             }
-            tape.next();
             int told = tape.isWord("doubt") ? NOTHING : sayAtHand();
             if (told == NONE) {
                 return blame(FORM);
@@ -1878,13 +1882,9 @@ public final class PostScripts {
             return tape.isWord("not") ? 0 : NONE;
         }
 
-        private boolean isName() {
-            return tape.kind == Tape.WORD && lineWord() == NO_LINE || blame(FORM);
-        }
-
         private boolean passNewName(int sort, int number) {
-            if (!isName()) {
-                return false;
+            if (tape.kind != Tape.WORD || lineWord() != NO_LINE) {
+                return blame(FORM);
             }
             if (names.indexOf(tape) != NONE) {
                 return blame(AGAIN);
@@ -1895,8 +1895,9 @@ public final class PostScripts {
         }
 
         // The number of the name at hand; NONE, and a fault, if it isn't one of that sort.
-        private int nameAtHand(int sort) {
-            if (!isName()) {
+        private int passName(int sort) {
+            if (tape.kind != Tape.WORD || lineWord() != NO_LINE) {
+                blame(FORM);
                 return NONE;
             }
             int i = names.indexOf(tape);
@@ -1904,15 +1905,8 @@ public final class PostScripts {
                 blame(UNTOLD);
                 return NONE;
             }
+            tape.next();
             return names.number[i];
-        }
-
-        private int passName(int sort) {
-            int number = nameAtHand(sort);
-            if (number != NONE) {
-                tape.next();
-            }
-            return number;
         }
     }
 }
