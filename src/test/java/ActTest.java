@@ -88,6 +88,18 @@ public final class ActTest {
         Check.refused(x, "nothing left", x.undo() ? 1 : 0, 0, 6);
         Check.due("written anew", x.write(0, 0, 0, false, 1), 1);
         Check.due("not struck anew", x.line(1, 5), 0);
+        PostScripts seventeen = Check.told(TEXT);
+        seventeen.fold(1);
+        seventeen.strike(0);
+        for (int i = 0; i < 15; i++) {
+            seventeen.fold(0);
+        }
+        Check.due("one more than are kept", seventeen.size(9), 16);
+        for (int i = 0; i < 16; i++) {
+            Check.due("undo " + i + " of sixteen", seventeen.undo(), true);
+        }
+        Check.due("the second is undone", seventeen.line(0, 5), 0);
+        Check.due("the first isn't", seventeen.place(1, 5), 1);
         PostScripts many = Check.told(TEXT);
         many.strike(0);
         for (int i = 0; i < 17; i++) {

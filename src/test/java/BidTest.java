@@ -27,6 +27,11 @@ public final class BidTest {
         PostScripts purse = Check.told(HEAD + ";bid i p inches 1 pays 6;bid h p inches 1 pays 7;bid h q inches 1 pays 4");
         Check.due("no more than the purse", purse.taken(), 2);
         Check.due("what it is worth", purse.worthOf(1), 3);
+        PostScripts alone = Check.told(HEAD + ";bid h p inches 3 pays 9;bid h p inches 1 pays 8");
+        Check.due("the first alone", alone.taken(), 1);
+        Check.due("the first is worth", alone.worthOf(0), 1);
+        PostScripts edge = Check.told(HEAD + ";bid h p inches 3 pays 10;bid i q inches 2 pays 5");
+        Check.due("just room and purse", edge.taken(), 3);
         PostScripts none = Check.told(HEAD);
         Check.refused(none, "no bids", none.taken(), 0, 0);
         Check.due("nothing is paid", none.paid(), 0);

@@ -55,6 +55,11 @@ public final class HiddenTest {
         Check.due("ask", x.ask(), 0);
         Check.due("askLeaves", x.askLeaves(), 4);
         Check.due("judge", x.judge(), -2);
+        PostScripts other = Check.told(HEAD + ";hidden p;done n do");
+        Check.due("of n, do", other.fits(), 1);
+        Check.due("it says so", other.fitAt(0, 0), 3);
+        Check.due("of m nothing", other.says(0, 0), 0);
+        Check.due("of n", other.says(0, 1), 1);
         PostScripts turned = Check.told(HEAD + ";wrote h p m do inches 1;hidden q;hidden p;done m do");
         Check.due("ask the second", turned.ask(), 1);
     }

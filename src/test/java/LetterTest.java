@@ -136,6 +136,15 @@ public final class LetterTest {
         Check.faulty("foo", 1, 0);
         Check.faulty("17", 1, 0);
         Check.faulty("letter dry 0", 1, 7);
+        Check.faulty("letter get 0", 1, 7);
+        Check.faulty("metter wet 0", 1, 0);
+        Check.faulty("letters wet 0", 1, 0);
+        Check.faulty("lette wet 0", 1, 0);
+        Check.faulty("letter wet 0;place p{ rank 1 room 1", 1, 20);
+        Check.faulty("letter wet 0;place p` rank 1 room 1", 1, 20);
+        Check.faulty("letter wet 0/", 1, 12);
+        Check.faulty("letter wet 0:", 1, 12);
+        Check.due("eight letters", Check.tell(new PostScripts(), "letter wet 0;place zyxwvaza rank 1 room 1;hidden zyxwvaza"), 1);
         Check.faulty("letter wet wet", 1, 11);
         Check.faulty("letter wet 0000;place p rank 1 room 1", 1, 11);
         Check.faulty("letter wet 0 place p rank 1 room 1", 1, 13);
@@ -191,6 +200,7 @@ public final class LetterTest {
         Check.faultyAtLast(HEAD + ";matter q", 3);
         Check.faultyAtLast(HEAD + ";place r rank 2", 3);
         Check.faultyAtLast(HEAD + ";place r rank 002", 3);
+        Check.faultyAtLast(HEAD + ";place r rank 1", 3);
         Check.faultyAtLast(HEAD + ";over q q", 3);
         Check.faultyAtLast(HEAD + ";over p q;over p q", 3);
         Check.faultyAtLast(HEAD + ";over p q;over q p", 3);

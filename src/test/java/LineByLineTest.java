@@ -60,6 +60,12 @@ public final class LineByLineTest {
         Check.due("the least bits of a ring", ring.turn(0), 1);
         Check.due("none of a ring is idle", ring.idle(), 0);
         Check.due("weakest of a ring", ring.weakest(), 0);
+        StringBuilder eight = new StringBuilder(HEAD);
+        for (int i = 0; i < 8; i++) {
+            eight.append(";wrote h a n do inches 1");
+        }
+        Check.due("all eight", Check.told(eight.toString()).turn(1), 255);
+        Check.due("weakest by eight", Check.told(eight.toString()).weakest(), 1);
         PostScripts none = Check.told(HEAD);
         Check.due("idle of none", none.idle(), 0);
         Check.due("weakest of none", none.weakest(), -2);

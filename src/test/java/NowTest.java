@@ -10,6 +10,7 @@ public final class NowTest {
         refusals();
         rings();
         nobody();
+        more();
         Check.end("NowTest");
     }
 
@@ -119,6 +120,15 @@ public final class NowTest {
         x.strike(4);
         Check.due("who rules then", x.ruler(), 1);
         Check.due("who would turn most then", x.power(), 1);
+    }
+
+    private static void more() {
+        PostScripts x = Check.told("letter wet 0;place a rank 1 room 9;hand h purse 0;hand i purse 0;matter m;matter n;matter o;matter s;"
+                + "wrote h a m do inches 1;wrote i a o do inches 1;wrote i a s do inches 1");
+        Check.due("first and last are done", x.allDone(), 13);
+        Check.due("who rules more", x.ruler(), 1);
+        Check.due("without whom more", x.power(), 1);
+        Check.due("in doubt", Check.led(x, 0), 1);
     }
 
     private static void nobody() {

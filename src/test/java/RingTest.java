@@ -25,6 +25,8 @@ public final class RingTest {
         Check.due("under", y.outranks(3, 0), 0);
         Check.due("else by rank", y.outranks(0, 2), 0);
         Check.due("top, the first of like ones", y.top(), 2);
+        PostScripts second = Check.told("letter wet 0;place a rank 1 room 1;place b rank 9 room 1;place c rank 3 room 1");
+        Check.due("top, the second", second.top(), 1);
         Check.due("top of one", Check.told("letter wet 0;place a rank 1 room 1").top(), 0);
     }
 

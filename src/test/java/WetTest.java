@@ -108,6 +108,10 @@ public final class WetTest {
         Check.due("a folded one, too", x.smudged(1, 1), 1);
         Check.due("the last seed", x.smudged(65536, 60), smudgedBy(65536, 60, 50, 2));
         Check.due("another seed", x.smudged(4711, 3), smudgedBy(4711, 3, 50, 2));
+        PostScripts one = Check.told("letter wet 74" + REST + ";wrote h p m do inches 1");
+        Check.due("74 isn't below 74", one.smudged(0, 1), 0);
+        Check.due("24 is", one.smudged(0, 2), 1);
+        Check.due("the one line is smudged", one.thumbs(0, 0, 2), -2);
         PostScripts none = Check.told("letter wet 100" + REST);
         Check.due("no lines", none.smudged(7, 60), 0);
         Check.due("in doubt", none.thumbs(0, 7, 60), -2);
