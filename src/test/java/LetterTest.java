@@ -103,6 +103,12 @@ public final class LetterTest {
         Check.due("next letter lines", x.size(5), 0);
         Check.due("next letter undo", x.undo(), false);
         Check.due("next letter back", x.back(0), false);
+        Check.feed(x, "letter wet 0;place p rank 1 room 12");
+        Check.due("cut in a whole", x.letter(34), 1);
+        Check.due("what is left of it", x.place(0, 1), 1);
+        Check.feed(x, "letter wet 0;place p rank 1 room 1;hidden pq");
+        Check.due("cut in a word", x.letter(43), 1);
+        Check.due("what is left of that", x.size(6), 1);
         Check.feed(x, HEAD);
         Check.due("part of the tape", x.letter(34), 1);
         Check.due("the tape is empty then", x.size(11), 0);

@@ -54,6 +54,9 @@ public final class RingTest {
         Check.due("the least bits", Check.told(FOUR + ";over a b;over b c").free(), 1);
         Check.due("no ring, nothing", Check.told(FOUR + ";over a b;over d a").free(), 0);
         Check.due("fewest ahead of least bits", Check.told(FOUR + ";over b c;over b d;over a b").free(), 4);
+        String six = FOUR + ";place e rank 5 room 1;place f rank 6 room 1";
+        Check.due("all six", Check.told(six + ";over a c;over a d;over a e;over a f;over b d;over b e").free(), 63);
+        Check.due("all but that of neighbours", Check.told(six + ";over a c;over a d;over a e;over a f;over e f;over b e").free(), 47);
         PostScripts x = Check.told(FOUR + ";over a d");
         x.free();
         Check.due("nothing is dropped", x.outranks(0, 3), 1);
