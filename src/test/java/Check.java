@@ -5,15 +5,21 @@ import java.util.NoSuchElementException;
 final class Check {
     private static int checks = 0;
     private static int wrong = 0;
+    private static String about = "";
 
     private Check() {
+    }
+
+    /** What the checks that follow are about: told with those that fail. */
+    static void about(String words) {
+        about = words + ": ";
     }
 
     static void due(String what, long got, long want) {
         checks++;
         if (got != want) {
             wrong++;
-            System.out.println(what + " answered " + got + ", due is " + want);
+            System.out.println(about + what + " answered " + got + ", due is " + want);
         }
     }
 
@@ -77,6 +83,53 @@ final class Check {
     static void faultyAtLast(String text, int fault) {
         int at = Math.max(text.lastIndexOf(' '), text.lastIndexOf(';')) + 1;
         faulty(text, fault, at);
+    }
+
+    /** A text without a fault. */
+    static void fine(String text, int places) {
+        PostScripts x = new PostScripts();
+        due("letter of <" + text + ">", tell(x, text), places);
+        due("trouble of <" + text + ">", x.trouble(), 0);
+        due("fault of <" + text + ">", x.fault(), 0);
+        due("where of <" + text + ">", x.where(), -1);
+    }
+
+    static void granted(PostScripts x, String what, long got, long want) {
+        refused(x, what, got, want, 0);
+    }
+
+    static void refused(PostScripts x, String what, boolean got, int trouble) {
+        refused(x, what, got ? 1 : 0, 0, trouble);
+    }
+
+    static void granted(PostScripts x, String what, boolean got) {
+        refused(x, what, got ? 1 : 0, 1, 0);
+    }
+
+    /** A refused call must leave all that can be seen; look goes first and behind it. */
+    static void same(String what, String before, String behind) {
+        due(what + ": " + before + " became " + behind, before.equals(behind), true);
+    }
+
+    /** All that can be seen of the letter, the lines and the acts. */
+    static String look(PostScripts x) {
+        StringBuilder seen = new StringBuilder();
+        for (int what = 0; what <= 11; what++) {
+            seen.append(x.size(what)).append(',');
+        }
+        for (int p = 0; p < x.size(1); p++) {
+            seen.append(" p");
+            for (int what = 0; what < 6; what++) {
+                seen.append(x.place(p, what)).append(',');
+            }
+        }
+        for (int k = 0; k < x.size(5); k++) {
+            seen.append(" k");
+            for (int what = 0; what < 8; what++) {
+                seen.append(x.line(k, what)).append(',');
+            }
+        }
+        return seen.toString();
     }
 
     static int led(PostScripts x, int i) {
