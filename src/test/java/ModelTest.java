@@ -23,6 +23,9 @@ public final class ModelTest {
         for (int i = 0; i < 200; i++) {
             anyNumbers(new Random(1000 + i));
         }
+        for (int i = 0; i < 150; i++) {
+            lettersOfOne(new Random(2000 + i));
+        }
         System.out.println("texts: " + letters + " letters, " + faults + " faults");
         Check.end("ModelTest");
     }
@@ -101,7 +104,7 @@ public final class ModelTest {
         return text.length() > 900 ? text.substring(0, 900) : text.toString();
     }
 
-    private static void text(Random random) {
+    private static String spoiltText(Random random) {
         List<String> tokens = letter(random);
         int spoilt = random.nextInt(4);
         for (int i = 0; i < spoilt && !tokens.isEmpty(); i++) {
@@ -119,9 +122,11 @@ public final class ModelTest {
             }
         }
         String text = join(random, tokens, random.nextInt(4) == 0);
-        if (random.nextInt(10) == 0) {
-            text = text.substring(0, random.nextInt(text.length() + 1));
-        }
+        return random.nextInt(10) == 0 ? text.substring(0, random.nextInt(text.length() + 1)) : text;
+    }
+
+    private static void text(Random random) {
+        String text = spoiltText(random);
         Model model = new Model();
         Model.Told told = model.parse(text);
         PostScripts x = new PostScripts();
@@ -156,6 +161,36 @@ public final class ModelTest {
             all(x, m, random, text + " round " + round);
             for (int i = random.nextInt(5); i >= 0; i--) {
                 act(x, m, random, text + " act");
+            }
+        }
+    }
+
+    /** One object reads letter behind letter: nothing of an older one, or of one with a fault, may be left. */
+    private static void lettersOfOne(Random random) {
+        PostScripts x = new PostScripts();
+        Model m = new Model();
+        for (int i = 0; i < 8; i++) {
+            String text = spoiltText(random);
+            String where = "letter " + i + " <" + text + ">";
+            Model.Told told = m.parse(text);
+            Check.due(where, Check.tell(x, text), told == null ? -1 : told.ranks.size());
+            Check.due(where + " trouble", x.trouble(), told == null ? 4 : 0);
+            Check.due(where + " fault", x.fault(), m.fault);
+            Check.due(where + " where", x.where(), m.faultAt);
+            Check.due(where + " tape", x.size(11), 0);
+            if (told != null) {
+                m.take(told);
+            }
+            for (int round = 0; round < 3 && m.t != null; round++) {
+                int[] sizes = {m.t.wet, m.places(), m.t.overs.size(), m.hands(), m.matters(), m.lines(), m.t.hidden.size(), m.t.done.size(),
+                    m.t.bids.size(), m.past.size(), m.images.size()};
+                for (int what = 0; what < sizes.length; what++) {
+                    Check.due(where + " size " + what, x.size(what), sizes[what]);
+                }
+                all(x, m, random, where + " round " + round);
+                hidden(x, m, where + " round " + round);
+                act(x, m, random, where + " act");
+                act(x, m, random, where + " act");
             }
         }
     }
